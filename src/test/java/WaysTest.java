@@ -1,0 +1,143 @@
+/** Promises 15 to 23: ways, rooms for life, rooms that can not be had. */
+public final class WaysTest {
+    private static final Check C = Check.begin();
+    /** A ring of four rooms, a dead end behind room 2, a room by itself. */
+    private static final String RING = "rooms 6; door 0 1; door 1 2; door 2 3; door 3 0; door 2 4; one 0;";
+
+    private static int[] way(OtherDoor x, int room) {
+        return new int[] {x.far(0, room), x.way(0, room, 0), x.way(0, room, 1), x.way(0, room, 2), x.way(0, room, 3)};
+    }
+
+    private static void promise15() {
+        OtherDoor x = Check.of(RING);
+        C.dueAll("far", new int[] {x.far(0, 0), x.far(0, 1), x.far(0, 2), x.far(0, 3), x.far(0, 4), x.far(0, 5)},
+            0, 1, 2, 1, 3, -4);
+        x.go(0, 0);
+        C.dueAll("out by another door", new int[] {x.far(0, 0), x.far(0, 1), x.far(0, 2), x.far(0, 3)}, 3, 0, 1, 2);
+        x.law(3);
+        C.due("back by the same", x.far(0, 0), 1);
+        C.dueAll("no such", new int[] {x.far(1, 0), x.far(-1, 0), x.far(0, 6), x.far(0, -1)}, -1, -1, -1, -1);
+        OtherDoor y = Check.of("rooms 4; law 1; door 0 1; door 1 0; door 0 2; door 2 3; one 1;");
+        y.go(0, 0);
+        y.go(0, 2);
+        y.stand(0, 0);
+        y.go(0, 0);
+        C.due("by doors and not by rooms", y.far(0, 3), 3);
+    }
+
+    private static void promise16() {
+        OtherDoor x = Check.of(RING);
+        C.dueAll("of two ways the first by doors", way(x, 2), 2, 0, 1, -4, -4);
+        C.dueAll("to his own room", way(x, 0), 0, -4, -4, -4, -4);
+        C.dueAll("to no room", way(x, 5), -4, -4, -4, -4, -4);
+        x.wall(0, true);
+        C.dueAll("round a wall", way(x, 1), 3, 3, 2, 1, -4);
+        C.dueAll("no such", new int[] {x.way(1, 0, 0), x.way(0, 6, 0), x.way(0, 0, -1), x.way(0, 5, -1)}, -1, -1, -1, -1);
+        C.due("far behind its end", x.way(0, 1, Integer.MAX_VALUE), -4);
+        OtherDoor y = Check.of("rooms 5; door 1 4; door 0 2; door 0 3; door 2 4; door 3 4; one 0;");
+        C.dueAll("first by the first door, not by the last", way(y, 4), 2, 1, 3, -4, -4);
+        OtherDoor z = Check.of("rooms 4; law 2; door 0 1 red; door 1 2 red; door 1 3; door 3 1 blue; one 0;");
+        C.dueAll("through a room twice", way(z, 2), 4, 0, 2, 3, 1);
+    }
+
+    private static void promise17() {
+        OtherDoor x = Check.of(RING + "one 5;");
+        C.dueAll("can", new int[] {x.can(0), x.can(1), x.can(2), x.can(-1)}, 31, 32, -1, -1);
+        x.wall(1, true);
+        x.go(0, 0);
+        C.due("in a dead end", x.can(0), 2);
+        x.law(3);
+        C.due("by any door", x.can(0), 31);
+    }
+
+    private static void promise18() {
+        OtherDoor x = Check.of(RING);
+        x.go(0, 0);
+        C.dueAll("path", new int[] {x.path(1, 0), x.path(0, 0), x.path(4, 0), x.path(0, 5), x.path(5, 5)}, 1, 0, 3, -4, 0);
+        C.dueAll("no such", new int[] {x.path(6, 0), x.path(0, 6), x.path(-1, 0), x.path(0, -1)}, -1, -1, -1, -1);
+        x.law(2);
+        C.dueAll("colours", new int[] {x.path(0, 1), x.path(0, 2)}, 1, -4);
+    }
+
+    private static void promise19() {
+        OtherDoor x = Check.of(RING);
+        C.due("pairs()", x.pairs(), 20);
+        x.law(2);
+        C.due("pairs() by one step alone", x.pairs(), 10);
+        OtherDoor y = Check.of("rooms 3; law 2; door 0 1 red; door 1 2 green;");
+        C.due("pairs() of two colours", y.pairs(), 6);
+        y.wall(1, true);
+        C.due("pairs() with a wall", y.pairs(), 2);
+        C.due("pairs() of a detour", Check.of("rooms 4; law 2; door 0 1 red; door 1 2 red; door 1 3; door 3 1 blue;").pairs(), 12);
+        C.due("pairs() round a red room", Check.of("rooms 4; law 2; door 0 1; door 1 2 red; door 2 3 red; door 2 0 red;").pairs(), 8);
+    }
+
+    private static void promise20() {
+        OtherDoor x = Check.of(RING);
+        C.due("life()", x.life(), 16);
+        x.wall(0, true);
+        C.due("life() with a wall", x.life(), 16 + 2 + 1);
+        x.law(3);
+        C.due("life() by law 3", x.life(), 0);
+        x.law(2);
+        C.due("life() of one colour", x.life(), 31);
+        OtherDoor y = Check.of("rooms 2; door 0 1; walled 0;");
+        C.due("nobody comes in by a wall", y.life(), 0);
+        OtherDoor z = Check.of("rooms 2; law 1; door 0 1; door 0 1;");
+        C.due("NEW ahead of the door", z.life(), 0);
+    }
+
+    private static void promise21() {
+        OtherDoor x = Check.of(RING);
+        C.dueAll("trap", new int[] {x.trap(4, 4), x.trap(2, 4), x.trap(0, 0)}, 1, 0, 0);
+        C.dueAll("no such", new int[] {x.trap(6, 0), x.trap(-1, 0), x.trap(0, 5), x.trap(0, -1), x.trap(0, 1)}, -1, -1, -1, -1, -1);
+        x.wall(0, true);
+        C.dueAll("walled", new int[] {x.trap(0, 0), x.trap(2, 0), x.trap(1, 1)}, -2, -1, 1);
+        OtherDoor y = Check.of("rooms 3; law 2; door 0 1 red; door 1 2 red; door 1 2 blue;");
+        C.dueAll("colours", new int[] {y.trap(1, 0), y.trap(0, 0), y.trap(2, 1)}, 0, 1, 0);
+    }
+
+    private static void promise22() {
+        OtherDoor x = Check.of(RING);
+        C.due("secret()", x.secret(), 32);
+        x.wall(4, true);
+        C.due("secret() with a wall", x.secret(), 48);
+        x.law(2);
+        C.due("secret() by law 2", x.secret(), 48);
+    }
+
+    private static void promise23() {
+        OtherDoor x = Check.of(RING);
+        C.due("safe()", x.safe(), 0);
+        x.wall(4, true);
+        C.due("safe() without the dead end", x.safe(), 1);
+        x.law(1);
+        C.due("safe() by law 1 in a ring", x.safe(), 1);
+        OtherDoor y = Check.of("rooms 2; law 1; door 0 1; door 0 1;");
+        C.due("lost by the second step", y.safe(), 0);
+        y.build(0, 1, 0);
+        C.due("three doors", y.safe(), 1);
+        y.law(2);
+        C.due("of one colour", y.safe(), 0);
+        y.build(0, 1, 1);
+        C.due("of two colours", y.safe(), 1);
+        OtherDoor z = Check.of("rooms 2; law 3; door 0 1;");
+        C.due("by any door", z.safe(), 1);
+        z.law(0);
+        C.due("by one door", z.safe(), 0);
+        C.due("without doors", new OtherDoor().safe(), 1);
+    }
+
+    public static void main(String[] args) {
+        promise15();
+        promise16();
+        promise17();
+        promise18();
+        promise19();
+        promise20();
+        promise21();
+        promise22();
+        promise23();
+        C.finish("WaysTest");
+    }
+}
