@@ -543,12 +543,11 @@ public final class OtherDoor {
             return true;
         }
 
-        /** Takes the latest door away: for a builder who only tries it. */
+        /** Takes the latest door away: for a builder who only tries it, and does not wall it up. */
         void dropLatest() {
             if (size <= 0) {
                 return;
             }
-            setWalled(size - 1, false);
             size--;
             int others = ~(1 << size);
             open[first[size]] &= others;
@@ -1005,7 +1004,6 @@ public final class OtherDoor {
             Arrays.fill(inRoom, 0);
             for (int level = 0; level < LEVELS; level++) {
                 Arrays.fill(met[level], 0);
-                Arrays.fill(fresh[level], 0);
                 Arrays.fill(coming[level], 0);
             }
             for (int side = 0; side < 2 * house.size; side++) {
@@ -1151,11 +1149,10 @@ public final class OtherDoor {
 
     /** Doors that are tried: one more, one walled up, as few as make all safe. */
     private static final class Builders {
-        private static final int NEW_MARK = COLOURS;
         /** A pair of rooms is ten times the one and the other. */
         private static final int PAIRS = 100;
-        /** For each colour the rooms that one has come into by it; then where he was at first. */
-        private final int[] entered = new int[COLOURS + 1];
+        /** For each colour and room: those rooms (bits) from which a NEW one comes into it by that colour. */
+        private final int[][] entered = new int[COLOURS][MOST_ROOMS];
         final int[] row = new int[2];
         private int best = NONE;
         private int bestPairs = NONE;
@@ -1168,51 +1165,48 @@ public final class OtherDoor {
         }
 
         int pairsOf(House house) {
+            spreadNew(house);
             int sum = 0;
             for (int room = 0; room < house.rooms; room++) {
-                sum += Integer.bitCount(roomsFrom(house, room)) - 1;
+                sum += Integer.bitCount(comersTo(room, NONE)) - 1;
             }
             return sum;
         }
 
-        /**
-         * Rooms to which a NEW one can come. A least way by rooms takes no door twice,
-         * so but for the colours no law bars him.
-         */
-        private int roomsFrom(House house, int start) {
-            Arrays.fill(entered, 0);
-            entered[NEW_MARK] = 1 << start;
+        /** From all rooms at once, as far as one comes. */
+        private void spreadNew(House house) {
+            for (int tint = 0; tint < COLOURS; tint++) {
+                Arrays.fill(entered[tint], 0);
+            }
             boolean grew = true;
-            // each turn but the last one enters a room by a colour for the first time
-            for (int turn = 0; turn <= COLOURS * MOST_ROOMS && grew; turn++) {
+            // each turn but the last one finds a bit more
+            for (int turn = 0; turn <= COLOURS * MOST_ROOMS * MOST_ROOMS && grew; turn++) {
                 grew = false;
                 for (int d = 0; d < house.size; d++) {
-                    grew |= !house.isWalled(d) && enterBy(house, d);
+                    if (!house.isWalled(d)) {
+                        grew |= enterBy(house, d, house.first[d], house.second[d]);
+                        grew |= enterBy(house, d, house.second[d], house.first[d]);
+                    }
                 }
             }
-            return readyFor(NONE);
         }
 
-        private boolean enterBy(House house, int d) {
+        /**
+         * A NEW one's least way by rooms takes no door twice, so but for the colours
+         * no law bars him.
+         */
+        private boolean enterBy(House house, int d, int from, int to) {
             int tint = house.colour[d];
-            int ready = readyFor(house.law == LAW_COLOUR ? tint : NONE);
-            int found = 0;
-            if ((ready >> house.first[d] & 1) != 0) {
-                found |= 1 << house.second[d];
-            }
-            if ((ready >> house.second[d] & 1) != 0) {
-                found |= 1 << house.first[d];
-            }
-            boolean grew = (found & ~entered[tint]) != 0;
-            entered[tint] |= found;
-            return grew;
+            int found = comersTo(from, house.law == LAW_COLOUR ? tint : NONE) & ~entered[tint][to];
+            entered[tint][to] |= found;
+            return found != 0;
         }
 
-        /** Rooms that one has come into by another colour than the barred one. */
-        private int readyFor(int barred) {
-            int some = 0;
-            for (int mark = 0; mark <= NEW_MARK; mark++) {
-                some |= mark == barred ? 0 : entered[mark];
+        /** Rooms from which a NEW one comes to a room, at last by another colour than the barred one. */
+        private int comersTo(int room, int barred) {
+            int some = 1 << room;
+            for (int tint = 0; tint < COLOURS; tint++) {
+                some |= tint == barred ? 0 : entered[tint][room];
             }
             return some;
         }
@@ -1333,8 +1327,13 @@ public final class OtherDoor {
             }
             if (depth >= steps || depth >= MOST_AJAR) {
                 note(room);
-                return;
+            } else {
+                branch(house, depth, room, last, ahead, unused);
             }
+        }
+
+        /** Tries the doors in their order, so that the first way that is found is the first by doors. */
+        private void branch(House house, int depth, int room, int last, int ahead, int unused) {
             int may = house.choices(room, last, ahead) & some;
             for (int d = 0; d < house.size; d++) {
                 if ((may >> d & 1) != 0) {

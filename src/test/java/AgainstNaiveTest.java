@@ -18,7 +18,7 @@ public final class AgainstNaiveTest {
 
     private AgainstNaiveTest(long seed) {
         chance = new Random(seed);
-        heavy = chance.nextInt(6);
+        heavy = chance.nextInt(4);
     }
 
     private int in(int low, int high) {
@@ -75,8 +75,8 @@ public final class AgainstNaiveTest {
         List<String> lines = new ArrayList<>();
         if (in(0, 9) > 0) lines.add("rooms" + blanks(chance, false) + r);
         else r = 4;
-        if (in(0, 4) > 0) lines.add("law" + blanks(chance, false) + in(0, 3));
-        int narrow = in(0, 2) == 0 ? Math.max(2, r / 2) : r;
+        if (in(0, 4) > 0) lines.add("law" + blanks(chance, false) + new int[] {0, 1, 1, 2, 2, 3}[in(0, 5)]);
+        int narrow = in(0, 1) == 0 ? Math.max(2, r / 2) : r;
         for (int i = 0; i < doors; i++) {
             int a = in(0, narrow - 1);
             int b = (a + in(1, narrow - 1)) % narrow;
@@ -116,6 +116,7 @@ public final class AgainstNaiveTest {
     private boolean run() {
         if (!tellText(true)) return false;
         for (int i = 0; i < 100; i++) {
+            if (in(0, 3) == 0 && !walk()) return false;
             if (!call(NAMES[in(0, NAMES.length - 1)])) return false;
         }
         return true;
@@ -230,6 +231,9 @@ public final class AgainstNaiveTest {
         for (int i = 0; i < 5; i++) {
             int p = person();
             int d = someDoor();
+            // mostly a door that he may take: else nobody walks far
+            int may = in(0, 2) == 0 ? 0 : y.one(p, 3);
+            for (int turn = 0; turn < 14 && may > 0 && (d < 0 || d > 13 || (may >> d & 1) == 0); turn++) d = turn;
             if (!check("go(" + p + ", " + d + ")", x.go(p, d), y.go(p, d))) return false;
         }
         return true;

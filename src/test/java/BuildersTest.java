@@ -22,6 +22,13 @@ public final class BuildersTest {
         C.dueAll("round a wall", new int[] {y.more(0), y.more(1)}, 1, 6);
         OtherDoor z = Check.of("rooms 3;" + "door 0 1;".repeat(14));
         C.dueAll("fourteen doors", new int[] {z.more(0), z.more(1), z.more(2)}, -2, -2, -1);
+        OtherDoor again = Check.of("rooms 4; door 0 1;");
+        C.dueAll("asked again", new int[] {again.more(0), again.more(1), again.build(0, 2, 0), again.build(0, 3, 0), again.more(0)},
+            2, 6, 1, 2, -4);
+        OtherDoor tried = Check.of("rooms 3; law 2; door 0 1;");
+        C.dueAll("a door that was tried leaves no colour", new int[] {tried.more(0), tried.build(1, 2, 1), tried.path(0, 2)}, 2, 1, 2);
+        OtherDoor middle = Check.of("rooms 3; law 2; door 1 0 red; door 0 2 red;");
+        C.dueAll("no door from a room to itself", new int[] {middle.more(0), middle.more(1)}, 1, 6);
         C.dueAll("ten rooms", new int[] {Check.of("rooms 10; door 8 9;").more(0), Check.of("rooms 10; door 8 9;").more(1)}, 8, 6);
     }
 
@@ -59,6 +66,8 @@ public final class BuildersTest {
         C.dueAll("one door", mends(x), 1, 2, -4);
         C.dueAll("all is as it was", seen(x), was);
         C.dueAll("no such", new int[] {x.mend(-1), x.mend(3)}, -1, -1);
+        OtherDoor zero = Check.of("rooms 4; door 0 1; door 1 2; door 2 3; door 3 1;");
+        C.dueAll("a room alone", mends(zero), 1, 1, -4);
         OtherDoor y = Check.of("rooms 8; door 0 1; door 2 3; door 4 5; door 5 6; door 6 4;");
         C.dueAll("two doors", mends(y), 2, 1, 23);
         OtherDoor twice = Check.of("rooms 2; law 1; door 0 1;");
@@ -67,10 +76,13 @@ public final class BuildersTest {
         C.dueAll("three would be needed", mends(z), -4, -4, -4);
         OtherDoor full = Check.of("rooms 4;" + "door 0 1;".repeat(13) + "door 1 2;");
         C.dueAll("no room for one", mends(full), -4, -4, -4);
+        C.dueAll("its doors stay", new int[] {full.rule(2), full.doors(2), full.count(0)}, 14, 1 << 13, 14);
         full.law(3);
         C.dueAll("safe and full", mends(full), 0, -4, -4);
         OtherDoor one = Check.of("rooms 6;" + "door 0 1;".repeat(11) + "door 2 3; door 4 5;");
         C.dueAll("room for one, two would be needed", mends(one), -4, -4, -4);
+        OtherDoor last = Check.of("rooms 4;" + "door 0 1;".repeat(11) + "door 1 2; door 2 3;");
+        C.dueAll("room for one", mends(last), 1, 3, -4);
         OtherDoor room = Check.of("rooms 6;" + "door 0 1;".repeat(10) + "door 2 3; door 4 5;");
         C.dueAll("room for two", mends(room), 2, 23, 45);
         OtherDoor red = Check.of("rooms 3; law 2; door 0 1 red; door 1 2 red; door 2 0 red;");

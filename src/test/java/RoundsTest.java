@@ -23,6 +23,17 @@ public final class RoundsTest {
         y.wall(2, true);
         y.go(0, 0);
         C.due("law 1, one door behind him", y.round(0, 1), -4);
+        OtherDoor z = Check.of("rooms 3; law 1; door 0 1; door 1 0; door 1 2; door 2 0; door 2 1; one 0;");
+        z.go(0, 0);
+        C.due("law 1, the door ahead is none", z.round(0, 1), 3);
+        z.stand(0, 1);
+        z.go(0, 0);
+        z.go(0, 1);
+        C.dueAll("law 1, the door ahead bars him", new int[] {z.one(0, 3), z.round(0, 1)}, 20, 3);
+        OtherDoor w = Check.of("rooms 3; law 1; door 0 1; door 0 1; door 0 2; door 2 0; one 1;");
+        w.go(0, 0);
+        w.go(0, 1);
+        C.dueAll("law 1, lost by the door ahead", new int[] {w.round(0, 1), w.law(0), w.round(0, 1)}, -4, 1, 2);
     }
 
     private static void promise25() {

@@ -76,6 +76,8 @@ public final class SheetsTest {
         for (int i = 0; i < 5; i++) {
             x.lay(1, i, cells[i]);
         }
+        C.dueAll("refused behind steps", new int[] {x.read(1, 1, 0, 0, 4), x.one(0, 0), x.one(0, 1), x.one(0, 2)}, -23, 0, -4, -4);
+        C.dueAll("refused in another room", new int[] {x.read(1, 1, 0, 2, 2), x.one(0, 0), x.one(0, 1)}, -21, 0, -4);
         C.dueAll("read", new int[] {x.read(1, 1, 0, 0, 3), x.one(0, 0), x.one(0, 1), x.one(0, 2), x.torn()}, 3, 0, 2, 1, 0);
         C.dueAll("refused: none is made", new int[] {x.read(1, 1, 0, 0, 4), x.one(0, 0), x.one(0, 1), x.one(0, 2)}, -23, 0, 2, 1);
         C.dueAll("refused at once", new int[] {x.read(1, 1, 0, 3, 1), x.read(1, 1, 0, 4, 1), x.read(1, 1, 1, 0, 1)}, -20, -20, -20);

@@ -76,6 +76,15 @@ public final class TextTest {
         C.due("leading noughts", Check.tell(x, "rooms 09;law 00;door 08 00;"), 3);
         C.due("rule(0)", x.rule(0), 9);
         C.due("door(0, 0)", x.door(0, 0), 8);
+        C.due("two walls", Check.tell(x, "door 0 1;door 0 2;door 0 3;walled 2;walled 0;"), 5);
+        C.due("doors(0)", x.doors(0), 2);
+        C.due("a walled palace is forgotten", Check.tell(x, "door 0 1;law 2;one 0;"), 3);
+        C.dueAll("nothing is left of it", new int[] {x.doors(0), x.doors(2), x.door(0, 3), x.go(0, 0), x.one(0, 3)}, 1, 0, 0, 1, 0);
+        Check.tell(x, "door 0 1 red;");
+        C.due("colours are told anew", Check.tell(x, "law 2;door 0 1;door 1 2 red;one 2;"), 4);
+        C.dueAll("red is door 1 alone", new int[] {x.go(0, 1), x.one(0, 3)}, 1, 1);
+        C.due("all figures", Check.tell(x, "rooms 10;door 0 9;door 1 8;door 2 7;door 3 6;door 4 5;"), 6);
+        C.dueAll("doors(9)", new int[] {x.doors(9), x.doors(8), x.doors(5)}, 1, 2, 16);
         C.due("fourteen doors", Check.tell(x, "door 0 1;".repeat(14)), 14);
         C.due("five people", Check.tell(x, "one 0;".repeat(5)), 5);
     }
@@ -140,6 +149,28 @@ public final class TextTest {
         faulty("walled 0;", 6, 9);
         faulty("door 0 1;walled 1;", 6, 18);
         faulty("door 0 4;law 9;", 3, 13);
+        // with the fault the text ends
+        faulty("rooms 1", 3, 6);
+        faulty("law 4", 3, 4);
+        faulty("one 10", 3, 4);
+        faulty("walled 14", 3, 7);
+        faulty("door 10", 3, 5);
+        faulty("door 0 10", 3, 7);
+        faulty("door 0 0", 4, 7);
+        faulty("one 1 walled 0; walled 0", 2, 6);
+        // signs next to those of tokens
+        faulty("abc;", 2, 0);
+        faulty("zoo;", 2, 0);
+        faulty("rooms 4;`", 1, 8);
+        faulty("rooms 4;{", 1, 8);
+        faulty("rooms/4;", 1, 5);
+        faulty("rooms 4:", 1, 7);
+        faulty("rooms!4", 1, 5);
+        faulty("rooms 4<", 1, 7);
+        faulty("door 0 1redd;", 2, 8);
+        faulty("aw 1;", 2, 0);
+        faulty("lax 1;", 2, 0);
+        faulty("xooms 5;", 2, 0);
         OtherDoor x = new OtherDoor();
         Check.tell(x, "?");
         C.due("fault() of ?", x.fault(), 1);

@@ -23,6 +23,25 @@ public final class WaysTest {
         y.stand(0, 0);
         y.go(0, 0);
         C.due("by doors and not by rooms", y.far(0, 3), 3);
+        OtherDoor z = Check.of("rooms 3; door 2 0; door 1 0; door 0 1; one 2; law 1;");
+        z.go(0, 0);
+        C.due("law 1: he turns round by two other doors", z.far(0, 2), 3);
+        OtherDoor u = Check.of("rooms 3; law 1; door 0 1; door 0 1; door 0 2; one 1;");
+        u.go(0, 0);
+        u.go(0, 1);
+        C.dueAll("law 1: lost", new int[] {u.far(0, 0), u.can(0), u.law(0), u.far(0, 0), u.can(0)}, -4, 2, 1, 1, 7);
+        OtherDoor w = Check.of("rooms 3; door 1 2; door 0 1; door 1 0; one 2; law 1;");
+        w.go(0, 0);
+        w.go(0, 1);
+        w.go(0, 2);
+        C.dueAll("the one ahead bars him, too", new int[] {w.one(0, 3), w.far(0, 2), w.can(0)}, 1, 1, 6);
+        OtherDoor v = Check.of("rooms 4; law 1; door 1 0; door 0 1; door 0 1; door 1 3; one 3;");
+        v.go(0, 3);
+        v.go(0, 0);
+        C.dueAll("and is kept from step to step", new int[] {v.far(0, 3), v.way(0, 3, 0), v.way(0, 3, 1)}, 2, 1, 3);
+        v.wall(3, true);
+        v.wall(2, true);
+        C.dueAll("two doors: one step more", new int[] {v.can(0), v.far(0, 1)}, 3, 1);
     }
 
     private static void promise16() {
@@ -104,6 +123,7 @@ public final class WaysTest {
         C.due("secret() with a wall", x.secret(), 48);
         x.law(2);
         C.due("secret() by law 2", x.secret(), 48);
+        C.due("secret() without doors", new OtherDoor().secret(), 15);
     }
 
     private static void promise23() {
@@ -128,6 +148,13 @@ public final class WaysTest {
         C.due("without doors", new OtherDoor().safe(), 1);
     }
 
+    private static void tenRooms() {
+        OtherDoor x = Check.of("rooms 10; door 8 9; door 0 1; door 1 0;");
+        C.dueAll("ten rooms", new int[] {x.life(), x.secret(), x.safe(), x.pairs(), x.path(9, 8)}, 768, 252, 0, 4, 1);
+        x.wall(0, true);
+        C.dueAll("a ring of two", new int[] {x.life(), x.secret(), x.safe(), x.pairs(), x.path(9, 8)}, 0, 1020, 1, 2, -4);
+    }
+
     public static void main(String[] args) {
         promise15();
         promise16();
@@ -138,6 +165,7 @@ public final class WaysTest {
         promise21();
         promise22();
         promise23();
+        tenRooms();
         C.finish("WaysTest");
     }
 }
