@@ -155,6 +155,17 @@ public final class WaysTest {
         C.dueAll("a ring of two", new int[] {x.life(), x.secret(), x.safe(), x.pairs(), x.path(9, 8)}, 0, 1020, 1, 2, -4);
     }
 
+    /** So many walks that no search may look at each of them. */
+    private static void manyDoors() {
+        OtherDoor x = Check.of("rooms 6;" + "door 0 1;door 1 2;door 2 3;door 3 4;".repeat(3) + "door 4 5;one 0;");
+        for (int law = 0; law < 4; law++) {
+            x.law(law);
+            boolean barred = law == 2;
+            C.dueAll("law " + law, new int[] {x.far(0, 5), x.can(0), x.path(5, 0), x.way(0, 5, 3), x.way(0, 5, 4)},
+                barred ? -4 : 5, barred ? 3 : 63, barred ? -4 : 5, barred ? -4 : 3, barred ? -4 : 12);
+        }
+    }
+
     public static void main(String[] args) {
         promise15();
         promise16();
@@ -166,6 +177,7 @@ public final class WaysTest {
         promise22();
         promise23();
         tenRooms();
+        manyDoors();
         C.finish("WaysTest");
     }
 }
