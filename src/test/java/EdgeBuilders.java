@@ -48,6 +48,8 @@ final class EdgeBuilders {
             e.refused("more(" + what + ") builds nothing", () -> richWithLaw(2), x -> x.more(asked), richWithLaw(2).more(what));
             e.refused("more(" + what + ") builds nothing by law 0", x -> x.more(asked), told);
         }
+        OtherDoor y = Check.of("rooms 2;law 2;door 0 1;one 0;");
+        e.row("what was tried leaves no colour", new int[] {y.more(0), y.mend(0), y.build(0, 1, 1), y.go(0, 0), y.one(0, 3)}, NONE, NONE, 1, 1, 2);
         e.of(28, "BAD; STATE: there are 14 DOORS; NONE: none makes more.");
         for (int what : new int[] {-1, 2, 10, MIN, MAX}) {
             e.refused("more(" + what + ")", x -> x.more(what), BAD);
@@ -58,6 +60,8 @@ final class EdgeBuilders {
         e.row("14 doors, one of them walled up", mores("rooms 3;" + "door 0 1;".repeat(14) + "walled 2;"), STATE, STATE);
         e.row("14 doors, none would make more", mores("rooms 2;" + "door 0 1;".repeat(14)), STATE, STATE);
         e.row("all pairs have a way", mores("rooms 3;door 0 1;door 1 2;"), NONE, NONE);
+        OtherDoor z = Check.of("rooms 2;");
+        e.row("none any more", new int[] {z.more(0), z.build(0, 1, 0), z.more(0), z.more(1)}, 1, 0, NONE, NONE);
         e.row("13 doors, none makes more", mores("rooms 2;" + "door 0 1;".repeat(13)), NONE, NONE);
     }
 
@@ -85,6 +89,8 @@ final class EdgeBuilders {
         }
         e.refused("worst(0) without doors", OtherDoor::new, x -> x.worst(0), NONE);
         e.refused("worst(1) without doors", OtherDoor::new, x -> x.worst(1), NONE);
+        OtherDoor y = Check.of("rooms 2;door 0 1;");
+        e.row("none any more", new int[] {y.worst(0), y.worst(1), y.wall(0, true), y.worst(0), y.worst(1)}, 0, 0, 0, NONE, NONE);
         e.row("all are walled up", worsts("rooms 2;door 0 1;door 0 1;walled 0;walled 1;"), NONE, NONE);
     }
 
@@ -101,6 +107,8 @@ final class EdgeBuilders {
         e.row("the first row of several", mends("rooms 4;law 1;door 0 1;door 0 1;"), 1, 1, NONE);
         e.of(30, "(each 10 a and b, a below b; the second one no less than the first; NONE: not so many).");
         e.row("the last two rooms", mends("rooms 10;door 8 9;"), 1, 89, NONE);
+        e.row("the first room alone is lost, no door to itself helps", mends("rooms 3;door 0 1;door 1 2;door 1 2;"), 1, 1, NONE);
+        e.row("two among the last rooms", mends("rooms 10;door 5 6;door 7 8;"), 2, 56, 78);
         e.row("round by room 0", mends("rooms 10;law 1;door 9 8;"), 2, 8, 9);
         e.row("the second one is as the first", mends("rooms 2;law 1;door 0 1;"), 2, 1, 1);
         e.row("none is needed", mends("rooms 2;"), 0, NONE, NONE);

@@ -58,6 +58,9 @@ final class EdgeRounds {
         e.row("eight doors", new int[] {x.tour(0, 10), x.tour(0, 11), x.tour(0, 16), x.tour(0, 17)}, 0, 1, 6, 7);
         OtherDoor last = Check.of("rooms 2;" + "door 0 1;".repeat(14) + "walled 0;walled 1;walled 2;walled 3;walled 4;walled 5;");
         e.row("the last eight of 14", new int[] {last.tour(0, 0), last.tour(0, 10), last.tour(0, 17)}, 40320, 6, 13);
+        OtherDoor painted = Check.of("rooms 2;law 2;door 0 1;door 0 1;door 0 1 red;");
+        e.row("by law 2 the colours take turns", new int[] {painted.tour(0, 0), painted.tour(0, 10), painted.tour(0, 11), painted.tour(0, 12), painted.law(0),
+            painted.tour(0, 0), painted.tour(0, 11)}, 2, 0, 2, 1, 2, 6, 1);
         e.of(25, "BAD; STATE: more than 8 DOORS are not WALLED UP;");
         for (int room : NO_ROOM) {
             e.refused("tour(" + room + ", 0) of 6 rooms", z -> z.tour(room, 0), BAD);

@@ -59,6 +59,11 @@ final class EdgeSheets {
         y.tell(1);
         y.wall(0, true);
         e.row("who, by which door, which walk, which wall", new int[] {y.back(1), y.one(0, 0), y.one(0, 1), y.count(2), y.door(0, 3)}, 2, 1, 0, 0, 0);
+        OtherDoor v = Check.of(PAIR);
+        v.tell(0);
+        v.tell(1);
+        v.keep(0);
+        e.row("the doors of the walk, not only how many", new int[] {v.forget(), v.tell(1), v.tell(1), v.judge(0), v.back(0), v.judge(0)}, 2, 1, 2, 1, 2, NONE);
         OtherDoor z = Twins.rich();
         e.row("the tape, its fault and the sheets are no part of it", new int[] {z.back(0), z.count(4), z.fault(), z.count(5), z.torn()}, 6, 14, 3, 3, 3);
         e.of(36, "BAD; STATE: there is none.");

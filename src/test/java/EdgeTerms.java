@@ -179,6 +179,7 @@ final class EdgeTerms {
         e.due("by one step", Check.of("rooms 2;door 0 1;").safe(), 0);
         e.due("by two steps", Check.of("rooms 2;law 1;door 0 1;door 0 1;").safe(), 0);
         e.due("in the last room", Check.of("rooms 10;door 0 1;door 0 1;door 1 9;").safe(), 0);
+        e.due("in the first room", Check.of("rooms 3;door 0 1;door 1 2;door 1 2;").safe(), 0);
         OtherDoor z = Check.of("rooms 2;door 0 1;door 0 1;one 0;");
         z.go(0, 0);
         z.wall(1, true);
@@ -196,6 +197,8 @@ final class EdgeTerms {
         e.row("NEW", new int[] {y.round(0, 2), y.wall(2, true), y.round(0, 2), y.go(0, 0), y.round(0, 1)}, 2, 0, 2, 1, NONE);
         OtherDoor w = Check.of("rooms 2;door 0 1;door 0 1;one 0;");
         e.row("come in", new int[] {w.go(0, 0), w.round(0, 1), w.wall(1, true), w.round(0, 1), w.stand(0, 1), w.round(0, 1)}, 1, 2, 0, NONE, 1, NONE);
+        OtherDoor v = Check.of("rooms 3;law 1;door 0 1;door 0 1;door 1 2;door 1 2;one 0;");
+        e.row("by law 1 the one ahead, too", new int[] {v.go(0, 0), v.go(0, 1), v.round(0, 2), v.round(0, 1), v.law(0), v.round(0, 2)}, 1, 0, NONE, 0, 1, 2);
         e.of("Terms", "A TOUR of a NEW one from a ROOM: a WAY through each DOOR that is not WALLED UP just once (without any such DOOR one, of no STEP).");
         OtherDoor z = Check.of("rooms 3;door 0 1;door 1 2;door 2 0;walled 0;walled 1;walled 2;");
         e.row("all walled up", new int[] {z.tour(0, 0), z.tour(2, 0), z.tour(0, 10)}, 1, 1, NONE);
@@ -215,6 +218,11 @@ final class EdgeTerms {
         e.row("they meet behind a minute", new int[] {y.talk(0, 1, 1), y.talk(0, 1, 2), y.talk(0, 1, 5)}, 1, 2, 5);
         y.law(2);
         e.row("and part for ever", new int[] {y.talk(0, 1, 1), y.talk(2, 3, 3), Check.of("rooms 3;law 2;door 0 1;door 1 2 red;one 0;one 2;").talk(0, 1, 2)}, 1, 2, NONE);
+        OtherDoor r = Check.of("rooms 5;door 0 1;door 1 2;door 2 3;door 3 4;one 0;one 4;");
+        e.row("apart at first, and behind a minute", new int[] {r.talk(0, 1, 1), r.talk(0, 1, 2), r.law(3), r.talk(0, 1, 1), r.talk(0, 1, 2), r.talk(0, 1, 5)},
+            2, NONE, 0, 2, 3, 6);
+        OtherDoor s = Check.of("rooms 3;door 0 1;door 1 2;door 2 0;one 1;one 2;");
+        e.row("ends that are not one behind another", new int[] {s.go(0, 0), s.go(1, 2), s.talk(0, 1, 1), s.talk(0, 1, 2), s.talk(1, 0, 5)}, 0, 0, 0, NONE, NONE);
         e.of("Terms", "A CUP that a ONE has comes to a ROOM: the fewest MINUTES behind which somebody of two who has it is there;");
         OtherDoor z = Check.of("rooms 4;door 0 1;door 1 2;door 2 3;one 2;one 0;");
         e.row("he himself", new int[] {z.cup(0, 1, 2), z.cup(0, 1, 3), z.cup(0, 1, 0)}, 0, 1, 2);

@@ -221,10 +221,11 @@ final class EdgeText {
         faulty("rooms 5;000", 1, 8);
         faulty("0123456789", 1, 0);
         e.of("Terms", "2 a TOKEN that can not stand there (a NAME that begins no line, is no colour; or the end: the length).");
-        for (String name : new String[] {"room", "roomss", "la", "laws", "doo", "doors", "on", "ones", "wall", "walledd", "red", "a", "z"}) {
+        for (String name : new String[] {"room", "roomss", "la", "laws", "doo", "doors", "on", "ones", "wall", "walledd", "red", "a", "z",
+            "pooms", "maw", "toor", "ine", "valled"}) {
             faulty(name + " 1;", 2, 0);
         }
-        for (String name : new String[] {"re", "redd", "gree", "greens", "blu", "blued", "white", "door", "one"}) {
+        for (String name : new String[] {"re", "redd", "gree", "greens", "blu", "blued", "white", "door", "one", "bed", "hreen", "clue"}) {
             faulty("door 0 1 " + name + ";", 2, 9);
         }
         faulty("7;", 2, 0);
@@ -317,6 +318,8 @@ final class EdgeText {
         z.end(0);
         e.due("doors alone", Check.tell(z, "door 0 1;door 2 1;door 0 3;door 3 1;door 1 3;"), 5);
         e.row("no wall, no colour is left", new int[] {z.count(0), z.door(4, 3), z.door(1, 2), z.doors(1), z.rule(3)}, 5, 0, 0, 27, 0);
+        OtherDoor painted = Check.of("door 0 1 red;door 0 1;");
+        e.row("no colour is left to law 2", new int[] {Check.tell(painted, "law 2;door 0 1;door 0 1 red;one 0;"), painted.go(0, 1), painted.one(0, 3)}, 4, 1, 1);
         e.of("Terms", "no walk is told then; IMAGES are gone; SHEETS stay.");
         OtherDoor w = Twins.rich();
         e.row("ahead of it", new int[] {w.count(2), w.count(3), w.count(5), w.torn()}, 4, 2, 3, 3);

@@ -53,6 +53,8 @@ final class EdgeWays {
         e.row("the first step, the last", new int[] {x.way(0, 0, 0), x.way(0, 0, 1), x.way(0, 0, 8)}, 8, 7, 0);
         OtherDoor y = Check.of(RING);
         e.row("of two the first by doors", new int[] {y.far(0, 2), y.way(0, 2, 0), y.way(0, 2, 1)}, 2, 0, 1);
+        OtherDoor w = Check.of("rooms 2;law 1;door 0 1;door 0 1;door 0 1;one 0;");
+        e.row("by law 1 not by the one ahead", new int[] {w.go(0, 0), w.go(0, 1), w.way(0, 1, 0), w.law(0), w.way(0, 1, 0)}, 1, 0, 2, 1, 0);
         e.of(16, "BAD (i below 0);");
         for (int i : new int[] {-1, MIN}) {
             e.refused("way(0, 3, " + i + ")", z -> z.way(0, 3, i), BAD);

@@ -63,8 +63,8 @@ final class Twins {
     }
 
     /** One object is used for one look alone, so that none is asked more than 512 calls. */
-    static final Look[] ALL = {Twins::palace, Twins::images, Twins::sheets, Twins::tape};
-    static final Look[] ALL_BUT_TAPE = {Twins::palace, Twins::images, Twins::sheets};
+    static final Look[] ALL = {Twins::palace, Twins::searches, Twins::images, Twins::sheets, Twins::tape};
+    static final Look[] ALL_BUT_TAPE = {Twins::palace, Twins::searches, Twins::images, Twins::sheets};
 
     private static void note(List<String> all, String call, int answer) {
         all.add(call + " = " + answer);
@@ -88,6 +88,37 @@ final class Twins {
         for (int p = 0; p < 5; p++) {
             for (int what = 0; what < 4; what++) {
                 note(all, "one(" + p + ", " + what + ")", x.one(p, what));
+            }
+        }
+        return all;
+    }
+
+    private static List<String> searches(OtherDoor x) {
+        List<String> all = new ArrayList<>();
+        note(all, "worst(0)", x.worst(0));
+        note(all, "more(0)", x.more(0));
+        note(all, "pairs()", x.pairs());
+        note(all, "safe()", x.safe());
+        for (int what = 0; what < 3; what++) {
+            note(all, "mend(" + what + ")", x.mend(what));
+        }
+        for (int p = 0; p < 3; p++) {
+            int q = (p + 1) % 3;
+            note(all, "can(" + p + ")", x.can(p));
+            note(all, "round(" + p + ", 7)", x.round(p, 7));
+            note(all, "round(" + p + ", 31)", x.round(p, 31));
+            note(all, "talk(" + p + ", " + q + ", 3)", x.talk(p, q, 3));
+            for (int room = 0; room < 6; room++) {
+                note(all, "far(" + p + ", " + room + ")", x.far(p, room));
+                note(all, "way(" + p + ", " + room + ", 1)", x.way(p, room, 1));
+                note(all, "cup(" + p + ", " + q + ", " + room + ")", x.cup(p, q, room));
+            }
+        }
+        for (int room = 0; room < 6; room++) {
+            note(all, "tour(" + room + ", 0)", x.tour(room, 0));
+            note(all, "tour(" + room + ", 11)", x.tour(room, 11));
+            for (int what : new int[] {0, 1, 10, 13}) {
+                note(all, "ajar(" + room + ", 4, 15, " + what + ")", x.ajar(room, 4, 15, what));
             }
         }
         return all;
