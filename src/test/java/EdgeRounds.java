@@ -33,6 +33,8 @@ final class EdgeRounds {
         e.row("by law 3", new int[] {x.round(0, 2), x.round(0, 34), x.round(0, 8), x.round(0, 62)}, 2, 4, 6, 6);
         OtherDoor y = Check.of("rooms 10;law 3;door 0 9;" + "one 0;".repeat(5));
         e.row("the last room, the last one", new int[] {y.round(4, 1 << 9), y.round(4, 0x3e0), y.round(4, 1 << 9 | 1)}, 2, NONE, 2);
+        OtherDoor last = Check.of("rooms 10;law 1;door 2 1;door 2 1;" + "door 8 9;".repeat(11) + "door 0 1;one 0;");
+        e.row("by law 1, ahead the last of 14 doors", new int[] {last.round(0, 4), last.round(0, 7), last.round(0, 2)}, 4, 4, 4);
         e.of(24, "BAD; NONE: there is none.");
         for (int p : NOBODY) {
             e.refused("round(" + p + ", 0) of 3 people", z -> z.round(p, 0), BAD);
