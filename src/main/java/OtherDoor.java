@@ -713,7 +713,7 @@ public final class OtherDoor {
         /** Of several least ways the first by doors is met first, as each level keeps their order. */
         int leastTo(House house, Walker one, int target) {
             begin(house, one);
-            for (int at = 0; at < size; at++) {
+            for (int at = 0; at < size && at < MOST; at++) {
                 if (room[at] == target) {
                     goal = at;
                     return length[at];
@@ -735,7 +735,7 @@ public final class OtherDoor {
         int roomsOf(House house, Walker one) {
             int some = 0;
             begin(house, one);
-            for (int at = 0; at < size; at++) {
+            for (int at = 0; at < size && at < MOST; at++) {
                 some |= 1 << room[at];
                 spread(house, at);
             }
@@ -845,8 +845,9 @@ public final class OtherDoor {
         private boolean spreadLevel(House house, int turn) {
             int old = 1 - turn;
             sizes[turn] = 0;
+            int many = sizes[old];
             boolean done = false;
-            for (int i = 0; i < sizes[old]; i++) {
+            for (int i = 0; i < many; i++) {
                 int spot = spots[old][i];
                 int sets = fresh[old][spot];
                 fresh[old][spot] = 0;

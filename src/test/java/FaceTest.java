@@ -1,24 +1,50 @@
+import java.io.IOException;
 import java.lang.reflect.Executable;
 import java.lang.reflect.Field;
 import java.lang.reflect.Method;
 import java.lang.reflect.Modifier;
+import java.nio.charset.StandardCharsets;
+import java.nio.file.Files;
+import java.nio.file.Path;
 import java.util.ArrayList;
-import java.util.Arrays;
 import java.util.List;
 import java.util.Set;
 import java.util.TreeSet;
+import java.util.regex.Matcher;
+import java.util.regex.Pattern;
 
-/** The public face of the document, and rules 1, 2, 5 and 11 of LANGUAGE.md as far as the compiled class shows them. */
+/** The public face, as the document tells it, and rules 1, 2, 5 and 11 of LANGUAGE.md as far as the compiled class shows them. */
 public final class FaceTest {
-    private static final String FACE = "feed(long) end(int) palace() fault() rule(int) door(int,int) one(int,int) doors(int) law(int) "
-        + "build(int,int,int) wall(int,boolean) stand(int,int) go(int,int) far(int,int) way(int,int,int) can(int) path(int,int) "
-        + "pairs() life() trap(int,int) secret() safe() round(int,int) tour(int,int) talk(int,int,int) cup(int,int,int) more(int) "
-        + "worst(int) mend(int) tell(int) forget() judge(int) ajar(int,int,int,int) keep(int) back(int) sheet(int,int,int) "
-        + "lay(int,int,int) read(int,int,int,int,int) torn() count(int)";
+    private static final Path DOC = Path.of("../shared/DOC.md");
+    private static final Pattern CALL = Pattern.compile("int (\\w+)\\(([^)]*)\\)");
     private static final Check C = Check.begin();
 
     private static void ok(String what, boolean holds) {
         C.due(what, holds ? 1 : 0, 1);
+    }
+
+    /** The calls that a text of the document tells, as name(type,type). */
+    private static List<String> told(String text) {
+        List<String> all = new ArrayList<>();
+        Matcher m = CALL.matcher(text);
+        while (m.find()) {
+            all.add(m.group(1) + "(" + m.group(2).replaceAll("(\\w+) \\w+(, )?", "$1,").replaceAll(",$", "") + ")");
+        }
+        return all;
+    }
+
+    /** Under "The public face" and at the head of each promise: the same calls, in the same order. */
+    private static List<String> toldFace() throws IOException {
+        String doc = Files.readString(DOC, StandardCharsets.UTF_8);
+        List<String> face = told(doc.substring(doc.indexOf("public final class"), doc.indexOf("## Terms")));
+        StringBuilder heads = new StringBuilder();
+        Matcher m = Pattern.compile("(?m)^`[^`]*`:").matcher(doc);
+        while (m.find()) {
+            heads.append(m.group()).append('\n');
+        }
+        ok("each call of the face has its promise: " + face, face.equals(told(heads.toString())));
+        C.due("calls", face.size(), 40);
+        return face;
     }
 
     private static String sign(Method m) {
@@ -29,8 +55,8 @@ public final class FaceTest {
         return m.getName() + "(" + String.join(",", types) + ")";
     }
 
-    private static void face() {
-        Set<String> told = new TreeSet<>(Arrays.asList(FACE.split(" ")));
+    private static void face(List<String> face) {
+        Set<String> told = new TreeSet<>(face);
         Set<String> found = new TreeSet<>();
         for (Method m : OtherDoor.class.getDeclaredMethods()) {
             if (Modifier.isPrivate(m.getModifiers())) {
@@ -70,10 +96,11 @@ public final class FaceTest {
         }
     }
 
-    public static void main(String[] args) {
-        face();
+    public static void main(String[] args) throws IOException {
+        List<String> face = toldFace();
+        face(face);
         Set<String> names = new TreeSet<>();
-        for (String sign : FACE.split(" ")) {
+        for (String sign : face) {
             names.add(sign.substring(0, sign.indexOf('(')));
         }
         classOf(OtherDoor.class, names);
